@@ -23,12 +23,15 @@ public final class RunsTest {
     }
 
     private void play() {
-        int built = 12 + dice.nextInt(30);
+        if (run % 2 == 1) {
+            steady();
+        }
+        int built = run % 2 == 1 ? 0 : 12 + dice.nextInt(30);
         for (int i = 0; i < CALLS && Due.wrongSoFar() < 20; i++) {
             if (i < built) {
                 build(dice.nextInt(7));
             } else {
-                call(dice.nextInt(64));
+                call(run % 2 == 1 ? 2 + dice.nextInt(62) : dice.nextInt(64));
             }
         }
         for (int what = -1; what < 14; what++) {
@@ -57,6 +60,40 @@ public final class RunsTest {
             return dice.nextInt();
         }
         return least + dice.nextInt(most - least + 1);
+    }
+
+    /** A ship that doesn't fall over at once, so that many TICKS have something to tell. */
+    private void steady() {
+        for (int i = 1 + dice.nextInt(3); i > 0; i--) {
+            int length = 5 + dice.nextInt(16);
+            int low = 11111 * (5 + dice.nextInt(5)) - dice.nextInt(1111);
+            int up = 11111 * (4 + dice.nextInt(6));
+            is("slice", p.slice(length, low, up), x.slice(length, low, up));
+        }
+        int mass = 100 + dice.nextInt(300);
+        is("weight", p.weight(mass, 0, 2, -1), x.weight(mass, 0, 2, -1));
+        for (int i = dice.nextInt(5); i > 0; i--) {
+            int light = 1 + dice.nextInt(12);
+            int place = dice.nextInt(11) - 5;
+            int slip = dice.nextInt(16) - 1;
+            is("weight", p.weight(light, place, 6, slip), x.weight(light, place, 6, slip));
+        }
+        is("tank", p.tank(5, 3, 30), x.tank(5, 3, 30));
+        is("fill", p.fill(0, 11), x.fill(0, 11));
+        for (int i = 0; i < 4; i++) {
+            int place = dice.nextInt(39) - 19;
+            int height = dice.nextInt(12);
+            is("mark", p.mark(place, height), x.mark(place, height));
+        }
+        for (int i = 1 + dice.nextInt(4); i > 0; i--) {
+            int height = 1 + dice.nextInt(20);
+            int period = 4 + dice.nextInt(61);
+            is("wave", p.wave(height, period, i), x.wave(height, period, i));
+        }
+        int stiff = 1000 + dice.nextInt(6000);
+        is("set", p.set(0, stiff), x.set(0, stiff));
+        is("set", p.set(1, 8), x.set(1, 8));
+        is("set", p.set(3, 2), x.set(3, 2));
     }
 
     private void build(int kind) {
@@ -133,9 +170,8 @@ public final class RunsTest {
                 }
                 break;
             case 1:
-            case 2:
                 a = dice.nextInt(5);
-                b = a == 0 ? (dice.nextBoolean() ? near(1, 1000000) : near(500, 5000)) : a == 3 ? near(0, 9) : near(0, 50);
+                b = a == 0 ? (dice.nextInt(4) == 0 ? near(1, 1000000) : near(800, 8000)) : a == 2 ? near(1, 12) : a == 3 ? near(0, 9) : near(0, 50);
                 a = a == 4 ? near(0, 3) : a;
                 is("set(" + a + ", " + b + ")", p.set(a, b), x.set(a, b));
                 break;
