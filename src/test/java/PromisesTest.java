@@ -246,6 +246,14 @@ public final class PromisesTest {
         Due.is("just carried", 500, z.at(0, 1));
         z.weight(1, 0, 0, NONE);
         Due.is("no more", VOID, z.at(0, 1));
+        // One BOX of LENGTH 1 alone, at the place 1 and the height 1: 100 and 5 times 1.
+        ShipSways one = new ShipSways();
+        one.slice(1, 10000, 0);
+        one.weight(1, 0, 0, NONE);
+        Due.is("LEVEL", 95, one.at(5, 0));
+        Due.is("PUSH", 1, one.at(5, 1));
+        Due.is("ARM", 105, one.at(5, 2));
+        Due.is("ARM to the other side", -105, one.at(-5, 2));
     }
 
     private static void restAndStays() {
@@ -280,6 +288,27 @@ public final class PromisesTest {
         y.lose(0);
         Due.is("without a LEVEL", VOID, y.rest(0));
         Due.is("without a LEVEL", NONE, y.stays(0));
+        // ARMS of just 0 and 1: 1 is above 0, and 0 isn't.
+        restsAsPlain(new int[] {2, 3524, 42824, 3, -1, 2, 4, -3}, -10);
+        restsAsPlain(new int[] {2, 48995, 63065, 9, 3, 2, 1, 2}, 11);
+        restsAsPlain(new int[] {1, 25246, 30128, 8, 0, 2, 5, -2}, -10);
+        restsAsPlain(new int[] {1, 31343, 2055, 5, -2, 2, 4, 1}, -34);
+    }
+
+    /** A SLICE and two WEIGHTS, and a SLOPE at which one of the RESTS lies. */
+    private static void restsAsPlain(int[] n, int slope) {
+        ShipSways x = new ShipSways();
+        Plain p = new Plain();
+        Due.is("slice", p.slice(n[0], n[1], n[2]), x.slice(n[0], n[1], n[2]));
+        Due.is("weight", p.weight(n[3], n[4], n[5], NONE), x.weight(n[3], n[4], n[5], NONE));
+        Due.is("weight", p.weight(n[6], n[7], 1, NONE), x.weight(n[6], n[7], 1, NONE));
+        int found = 0;
+        for (int k = 0; k <= p.rests().size(); k++) {
+            found += x.rest(k) == slope ? 1 : 0;
+            Due.is("rest(" + k + ")", p.rest(k), x.rest(k));
+            Due.is("stays(" + k + ")", p.stays(k), x.stays(k));
+        }
+        Due.is("at " + slope, 1, found);
     }
 
     private static void wave() {
