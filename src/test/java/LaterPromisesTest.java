@@ -47,6 +47,10 @@ public final class LaterPromisesTest {
         fault("x", 0);
         fault("  wor 1=1;", 2);
         fault("worker 1=1;", 0);
+        fault("workz 1=1;", 0);
+        fault("worka 1=1;", 0);
+        fault("azaz", 0);
+        fault("work 1=1; azaz", 10);
         fault("work", 4);
         fault("work ", 5);
         fault("work 1", 6);
@@ -170,9 +174,25 @@ public final class LaterPromisesTest {
         for (String c : yes) {
             holds(c, 1);
         }
+        deepest();
         String[] no = {"1=2", "2<1", "1>2", "[1=1 or 1=2]and 1=2", "not[1=1 or 1=2]", "not 1=1 and 1=1", "1=1 and not 1=1", "not[not[1=2]]"};
         for (String c : no) {
             holds(c, 0);
+        }
+    }
+
+    /** As much as can wait: on each of the levels what joins, with the level behind it. */
+    private static void deepest() {
+        ShipSways x = new ShipSways();
+        for (int brackets = 0; brackets <= 8; brackets++) {
+            int parens = 8 - brackets;
+            String end = "1+1*".concat("(2+1*".repeat(parens)) + "1" + ")".repeat(parens);
+            int value = 2 + 2 * parens;
+            String text = "1=2 or 1=1 and[".repeat(brackets) + "1=2 or 1=1 and " + end + "=" + end + "-0*" + value + "]".repeat(brackets);
+            Texts.rule(x, "work " + text + ";");
+            Due.is("work " + text, 1, x.holds(0));
+            Texts.rule(x, "work " + text.replace("-0*", "-") + ";");
+            Due.is("work, but not the same: " + text, 0, x.holds(0));
         }
     }
 
