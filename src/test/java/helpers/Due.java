@@ -2,15 +2,21 @@
 final class Due {
     private static int asked = 0;
     private static int wrong = 0;
+    private static String sentence = "";
 
     private Due() {
+    }
+
+    /** What follows tests this sentence of the document, which is told with each answer that is not as due. */
+    static void of(String words) {
+        sentence = words.isEmpty() ? "" : "[" + words + "] ";
     }
 
     static void is(String call, long want, long got) {
         asked++;
         if (got != want) {
             wrong++;
-            System.out.println(call + " answered " + got + ", due is " + want);
+            System.out.println(sentence + call + " answered " + got + ", due is " + want);
         }
     }
 
