@@ -13,7 +13,7 @@ public final class RefusedTest {
         statesAreAsMeant();
         for (String state : Fleet.STATES) {
             Due.of("What is refused changes nothing. (" + state + ")");
-            Probe due = Probe.of(Fleet.ship(state));
+            Probe due = plan(state);
             beyondTheEnds(state, due);
             refusedAnywhere(state, due);
         }
@@ -49,6 +49,8 @@ public final class RefusedTest {
         Due.is("spent: NOW", 600, Fleet.ship("spent").count(0));
         Due.is("under way: a FAULT", 12, Fleet.ship("underWay").fault());
         Due.is("full: no FAULT", NONE, Fleet.ship("full").fault());
+        Due.is("wordy: bytes", 300, Fleet.ship("wordy").count(6));
+        Due.is("wordy: a FAULT", 300, Fleet.ship("wordy").fault());
     }
 
     private static void beyondTheEnds(String state, Probe due) {
@@ -82,7 +84,7 @@ public final class RefusedTest {
     /** All calls that want something that isn't there. */
     private static void withoutAny() {
         Due.of("false, NONE or VOID if there is none such");
-        Probe due = Probe.of(Fleet.ship("bare"));
+        Probe due = plan("bare");
         isRefused("bare", due, "lose", 0, 0);
         isRefused("bare", due, "fill", 0, 0, 0);
         isRefused("bare", due, "at", VOID, 0, 0);
@@ -98,7 +100,7 @@ public final class RefusedTest {
         isRefused("bare", due, "check", NONE, 0, 0, 0);
         isRefused("bare", due, "place", VOID, 0);
         isRefused("bare", due, "wetted", NONE, 0);
-        Probe later = Probe.of(Fleet.ship("underWay"));
+        Probe later = plan("underWay");
         isRefused("underWay", later, "lose", 0, Fleet.LOST);
         isRefused("underWay", later, "place", VOID, Fleet.LOST);
         isRefused("underWay", later, "rules", 0);
@@ -107,7 +109,7 @@ public final class RefusedTest {
     /** All that has room for so many, with just that many there: what would be right is refused. */
     private static void withoutRoom() {
         Due.of("at most 6, 12, 4, 6, 8, 12, 64, 300");
-        Probe due = Probe.of(Fleet.ship("full"));
+        Probe due = plan("full");
         isRefused("full", due, "slice", NONE, 1, 11111, 11111);
         isRefused("full", due, "weight", NONE, 1, 0, 0, NONE);
         isRefused("full", due, "tank", NONE, 1, 0, 1);
@@ -117,11 +119,14 @@ public final class RefusedTest {
         isRefused("full", due, "record", NONE, 80);
         isRefused("full", due, "feed", NONE, 0, 0, 0, 0, 0);
         isRefused("full", due, "lose", 0, Fleet.LOST);
+        Probe wordy = plan("wordy");
+        isRefused("wordy", wordy, "feed", NONE, 0x3b3b3b3b, 0, 0, 0, 0);
+        isRefused("wordy", wordy, "rules", 0);
     }
 
     private static void withoutLevel() {
         Due.of("VOID .. without a LEVEL");
-        Probe due = Probe.of(Fleet.ship("sunk"));
+        Probe due = plan("sunk");
         for (int what = 0; what <= 2; what++) {
             isRefused("sunk", due, "at", VOID, -80, what);
             isRefused("sunk", due, "at", VOID, 80, what);
@@ -138,7 +143,7 @@ public final class RefusedTest {
 
     private static void tooLate() {
         Due.of("NONE for others, or if NOW is 600");
-        Probe due = Probe.of(Fleet.ship("spent"));
+        Probe due = plan("spent");
         isRefused("spent", due, "holds", NONE, 0);
         isRefused("spent", due, "holds", NONE, 1);
         Due.of("n TICKS go (0 .. 100; up to 600)");
@@ -152,6 +157,11 @@ public final class RefusedTest {
         ShipSways ship = Fleet.ship(state);
         String text = Calls.text(call, numbers);
         Due.is(text, refusal, Calls.make(ship, call, numbers));
-        Probe.of(ship).isAs(text, due);
+        due.again(ship).isAs(text, due);
+    }
+
+    /** What a ship in this state answers to all that it doesn't refuse. */
+    private static Probe plan(String state) {
+        return Probe.of(Fleet.ship(state)).again(Fleet.ship(state));
     }
 }

@@ -1,6 +1,6 @@
 /** Ships in the states that tests begin from; each can be made as a ShipSways and as a Plain. */
 final class Fleet {
-    static final String[] STATES = {"bare", "barge", "underWay", "full", "over", "sunk", "spent"};
+    static final String[] STATES = {"bare", "barge", "underWay", "wordy", "full", "over", "sunk", "spent"};
     /** What every TANK of these ships holds. */
     static final int HOLDS = 30;
     /** The one WEIGHT that a ship under way, or a full one, has lost. */
@@ -28,6 +28,9 @@ final class Fleet {
                 break;
             case "underWay":
                 underWay(ship);
+                break;
+            case "wordy":
+                wordy(ship);
                 break;
             case "full":
                 full(ship);
@@ -83,6 +86,14 @@ final class Fleet {
         }
         Calls.make(ship, "go", 20);
         put(ship, "fin slope = ");
+    }
+
+    private static void wordy(Object ship) {
+        barge(ship);
+        Calls.make(ship, "mark", 2, 3);
+        Calls.make(ship, "wave", 14, 20, 0);
+        put(ship, "work " + "slope=1 or ".repeat(26) + "speed > 1");
+        Calls.make(ship, "go", 5);
     }
 
     private static void full(Object ship) {

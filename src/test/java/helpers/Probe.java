@@ -1,13 +1,25 @@
 import java.util.ArrayList;
 import java.util.List;
+import java.util.Map;
 
 /**
  * Asks a ship for all that can be asked, then lets it go on and asks again, so that nothing of what it holds
  * stays hidden. It takes some 250 calls: a ship is good for 512.
  */
 final class Probe {
+    private static final int NONE = -1;
+    private static final int VOID = Integer.MIN_VALUE;
+    /** What calls answer when they are refused; the others of a probe never are. */
+    private static final Map<String, Integer> REFUSALS = Map.ofEntries(
+        Map.entry("at", VOID), Map.entry("rest", VOID), Map.entry("stays", NONE), Map.entry("sea", VOID), Map.entry("kept", VOID),
+        Map.entry("lead", VOID), Map.entry("holds", NONE), Map.entry("tried", NONE), Map.entry("still", NONE), Map.entry("best", NONE),
+        Map.entry("goes", VOID), Map.entry("check", NONE), Map.entry("place", VOID), Map.entry("wetted", NONE), Map.entry("rules", 0),
+        Map.entry("go", NONE), Map.entry("slice", NONE), Map.entry("weight", NONE), Map.entry("tank", NONE), Map.entry("fill", 0),
+        Map.entry("mark", NONE), Map.entry("wave", NONE), Map.entry("hour", NONE), Map.entry("record", NONE), Map.entry("feed", NONE));
+
     private final Object ship;
-    private final List<String> calls = new ArrayList<>();
+    private final List<String> names = new ArrayList<>();
+    private final List<int[]> numbers = new ArrayList<>();
     private final List<Integer> answers = new ArrayList<>();
 
     private Probe(Object ship) {
@@ -22,17 +34,32 @@ final class Probe {
         return probe;
     }
 
+    /**
+     * The calls of this probe on another ship, but for those that were refused: if a refused call changed something,
+     * one of these would change it for the ship with the call that is looked at and for the one without it alike.
+     */
+    Probe again(Object other) {
+        Probe probe = new Probe(other);
+        for (int i = 0; i < names.size(); i++) {
+            if (!answers.get(i).equals(REFUSALS.get(names.get(i)))) {
+                probe.ask(names.get(i), numbers.get(i));
+            }
+        }
+        return probe;
+    }
+
     /** Each answer that differs from the one that is due is told. */
     void isAs(String label, Probe due) {
         Due.is(label + ": answers", due.answers.size(), answers.size());
         for (int i = 0; i < Math.min(answers.size(), due.answers.size()); i++) {
-            Due.is(label + ", then " + calls.get(i), due.answers.get(i), answers.get(i));
+            Due.is(label + ", then " + Calls.text(names.get(i), numbers.get(i)), due.answers.get(i), answers.get(i));
         }
     }
 
-    private int ask(String name, int... numbers) {
-        int answer = Calls.make(ship, name, numbers);
-        calls.add(Calls.text(name, numbers));
+    private int ask(String name, int... with) {
+        int answer = Calls.make(ship, name, with);
+        names.add(name);
+        numbers.add(with);
         answers.add(answer);
         return answer;
     }
@@ -85,7 +112,8 @@ final class Probe {
     }
 
     private void goOn() {
-        ask("go", 2);
+        ask("go", 40);
+        askEach("wetted", 0, 5);
         ask("rules");
         askEach("holds", 0, 1);
         ask("slice", 2, 22222, 22);
