@@ -250,23 +250,10 @@ public final class LaterPromisesTest {
         Due.is("tried(4, 2)", 4, x.tried(4, 2));
         Due.is("nothing is changed", 0, x.count(0));
         Due.is("nothing is changed", 0, x.count(8));
+        // A ship each: one is good for 512 calls.
         for (int round = 0; round < 6; round++) {
-            int greatest = Math.abs(round == 0 ? 0 : x.kept(x.count(0) - 1, 0));
-            int foreseen = x.tried(100, 0);
-            int sick = x.tried(100, 1);
-            int worked = x.tried(100, 2);
-            int from = x.count(0);
-            x.go(100);
-            for (int t = from; t < from + 100; t++) {
-                greatest = Math.max(greatest, Math.abs(x.kept(t, 0)));
-            }
-            Due.is("greatest SLOPE foreseen", greatest, foreseen);
-            Due.is("SICK foreseen", x.count(7), sick);
-            Due.is("WORKED foreseen", x.count(8), worked);
+            foreseen(round);
         }
-        Due.is("at the end", 600, x.count(0));
-        Due.is("none beyond 599", Math.abs(x.kept(599, 0)), x.tried(120, 0));
-        Due.is("none beyond 599", 600, x.tried(120, 2));
         ShipSways y = barge();
         y.wave(60, 16, 4);
         y.weight(1, 0, 0, 0);
@@ -276,6 +263,31 @@ public final class LaterPromisesTest {
         Due.is("no deck is wet", 0, y.wetted(0));
         Due.is("not OVER", 0, y.count(9));
         Due.is("nothing kept", VOID, y.kept(0, 0));
+    }
+
+    private static void foreseen(int round) {
+        ShipSways x = barge();
+        x.wave(10, 16, 0);
+        for (int i = 0; i < round; i++) {
+            x.go(100);
+        }
+        int from = x.count(0);
+        int greatest = Math.abs(round == 0 ? 0 : x.kept(from - 1, 0));
+        int foreseen = x.tried(100, 0);
+        int sick = x.tried(100, 1);
+        int worked = x.tried(100, 2);
+        x.go(100);
+        for (int t = from; t < from + 100; t++) {
+            greatest = Math.max(greatest, Math.abs(x.kept(t, 0)));
+        }
+        Due.is("greatest SLOPE foreseen", greatest, foreseen);
+        Due.is("SICK foreseen", x.count(7), sick);
+        Due.is("WORKED foreseen", x.count(8), worked);
+        if (round == 5) {
+            Due.is("at the end", 600, x.count(0));
+            Due.is("none beyond 599", Math.abs(x.kept(599, 0)), x.tried(120, 0));
+            Due.is("none beyond 599", 600, x.tried(120, 2));
+        }
     }
 
     private static void still() {

@@ -2,13 +2,15 @@ import java.util.Random;
 
 /** Long runs of calls by chance (of fixed seeds), each answer held against the plain one. */
 public final class RunsTest {
-    private static final int RUNS = 400;
-    private static final int CALLS = 480;
+    private static final int RUNS = 600;
+    /** A ship is good for 512 calls; one step makes 20 at most, and the end of a run 15. */
+    private static final int CALLS = 475;
 
     private final Random dice;
     private final ShipSways x = new ShipSways();
     private final Plain p = new Plain();
     private final int run;
+    private int calls;
 
     private RunsTest(int run) {
         this.run = run;
@@ -27,7 +29,7 @@ public final class RunsTest {
             steady();
         }
         int built = run % 2 == 1 ? 0 : 12 + dice.nextInt(30);
-        for (int i = 0; i < CALLS && Due.wrongSoFar() < 20; i++) {
+        for (int i = 0; calls < CALLS && Due.wrongSoFar() < 20; i++) {
             if (i < built) {
                 build(dice.nextInt(7));
             } else {
@@ -40,6 +42,7 @@ public final class RunsTest {
     }
 
     private void is(String call, long want, long got) {
+        calls++;
         Due.is("run " + run + ": " + call, want, got);
     }
 
@@ -219,12 +222,12 @@ public final class RunsTest {
                 break;
             case 7:
             case 8:
-                a = near(0, Math.max(0, x.count(0) - 1));
+                a = near(0, Math.max(0, p.count(0) - 1));
                 b = near(0, 2);
                 is("kept(" + a + ", " + b + ")", p.kept(a, b), x.kept(a, b));
                 break;
             default:
-                a = near(0, Math.max(0, x.count(0) - 1));
+                a = near(0, Math.max(0, p.count(0) - 1));
                 b = near(0, 2);
                 c = dice.nextInt(4) == 0 ? dice.nextInt() : dice.nextInt(16);
                 is("check(" + a + ", " + b + ", " + c + ")", p.check(a, b, c), x.check(a, b, c));
@@ -234,7 +237,7 @@ public final class RunsTest {
 
     private void write() {
         if (dice.nextInt(6) == 0) {
-            int a = near(0, x.count(6));
+            int a = near(0, p.count(6));
             is("end(" + a + ")", p.end(a), x.end(a));
         } else if (dice.nextInt(6) == 0) {
             int a = dice.nextInt();
@@ -251,8 +254,7 @@ public final class RunsTest {
     }
 
     private void feed(String text) {
-        p.end(0);
-        x.end(0);
+        is("end(0)", p.end(0), x.end(0));
         for (int i = 0; i < text.length(); i += 20) {
             int a = Texts.four(text, i);
             int b = Texts.four(text, i + 4);
@@ -289,7 +291,7 @@ public final class RunsTest {
     private void sail() {
         int a;
         int b;
-        if (dice.nextInt(12) == 0 || x.count(10) > 5) {
+        if (dice.nextInt(12) == 0 || p.count(10) > 5) {
             a = near(4, 64);
             is("begin(" + a + ")", p.begin(a), x.begin(a));
         } else if (dice.nextBoolean()) {
@@ -297,8 +299,8 @@ public final class RunsTest {
             b = near(4, 64);
             is("hour(" + a + ", " + b + ")", p.hour(a, b), x.hour(a, b));
         } else {
-            a = near(0, 3 * x.count(10));
-            b = near(-1, Math.max(0, x.count(10) - 1));
+            a = near(0, 3 * p.count(10));
+            b = near(-1, Math.max(0, p.count(10) - 1));
             is("best(" + a + ", " + b + ")", p.best(a, b), x.best(a, b));
         }
     }
